@@ -27,6 +27,7 @@ public final class PromiseTest {
         promise3Retract();
         promise3RetractTakesTheLast();
         promise4Drop();
+        promises3And4LeaveTheValues();
         promise5RunEachInstruction();
         promise5RunWraps();
         promise5RunCellAddresses();
@@ -174,6 +175,15 @@ public final class PromiseTest {
         Due.same("4: no link to what was dropped", x.links(), 0);
         Due.same("4: no weight of what was dropped", x.weight(0), 1);
         Due.same("4: drop of a full program", filled().drop(), MOST);
+    }
+
+    private static void promises3And4LeaveTheValues() {
+        BundleMachine retracted = sample();
+        retracted.retract();
+        sameValues("3: after retract", retracted, sample());
+        BundleMachine dropped = sample();
+        dropped.drop();
+        sameValues("4: after drop", dropped, sample());
     }
 
     private static void promise5RunEachInstruction() {
