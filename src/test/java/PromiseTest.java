@@ -124,7 +124,7 @@ public final class PromiseTest {
     }
 
     private static void promise2EmitFullComesFirst() {
-        BundleMachine x = filled();
+        BundleMachine x = Machines.filled();
         Due.same("2: full, wrong op", x.emit(9, 0, 0, 0), FULL);
         Due.same("2: full, wrong d", x.emit(ADD, 8, 0, 0), FULL);
         Due.same("2: full, wrong a", x.emit(ADD, 0, -1, 0), FULL);
@@ -132,7 +132,7 @@ public final class PromiseTest {
     }
 
     private static void promise3Retract() {
-        BundleMachine x = filled();
+        BundleMachine x = Machines.filled();
         for (int left = MOST - 1; left >= 0; left--) {
             Due.same("3: retract to " + left, x.retract(), left);
         }
@@ -174,16 +174,16 @@ public final class PromiseTest {
         x.emit(ADD, 3, 1, 2);
         Due.same("4: no link to what was dropped", x.links(), 0);
         Due.same("4: no weight of what was dropped", x.weight(0), 1);
-        Due.same("4: drop of a full program", filled().drop(), MOST);
+        Due.same("4: drop of a full program", Machines.filled().drop(), MOST);
     }
 
     private static void promises3And4LeaveTheValues() {
-        BundleMachine retracted = sample();
+        BundleMachine retracted = Machines.sample();
         retracted.retract();
-        sameValues("3: after retract", retracted, sample());
-        BundleMachine dropped = sample();
+        Machines.sameValues("3: after retract", retracted, Machines.sample());
+        BundleMachine dropped = Machines.sample();
         dropped.drop();
-        sameValues("4: after drop", dropped, sample());
+        Machines.sameValues("4: after drop", dropped, Machines.sample());
     }
 
     private static void promise5RunEachInstruction() {
@@ -289,7 +289,7 @@ public final class PromiseTest {
         }
         Due.same("5: links after runs", x.links(), 1);
         Due.same("5: emit after runs", x.emit(ADD, 0, 0, 0), 3);
-        BundleMachine full = filled();
+        BundleMachine full = Machines.filled();
         Due.same("5: run of a full program", full.run(), MOST);
         Due.same("5: all 24 ran", full.register(1), MOST);
     }
@@ -381,7 +381,7 @@ public final class PromiseTest {
         for (int i : new int[] {-1, 2, 3, 23, 24, 25, MIN, MAX}) {
             Due.same("10: weight(" + i + ") of two", x.weight(i), BAD);
         }
-        BundleMachine full = filled();
+        BundleMachine full = Machines.filled();
         Due.same("10: weight(23) of a full program", full.weight(23), MOST);
         for (int i : new int[] {-1, 24, 25, MIN, MAX}) {
             Due.same("10: weight(" + i + ") of a full program", full.weight(i), BAD);
@@ -483,7 +483,7 @@ public final class PromiseTest {
     }
 
     private static void promise13RefusedCallsChangeNothing() {
-        BundleMachine x = sample();
+        BundleMachine x = Machines.sample();
         x.emit(-1, 5, 1, 1);
         x.emit(9, 5, 1, 1);
         x.emit(ADD, 8, 1, 1);
@@ -497,14 +497,14 @@ public final class PromiseTest {
         x.memory(16);
         x.weight(-1);
         x.weight(3);
-        sameState("13: after refused calls", x, sample());
+        Machines.sameState("13: after refused calls", x, Machines.sample());
     }
 
     private static void promise13RefusedWhenFull() {
-        BundleMachine x = filled();
+        BundleMachine x = Machines.filled();
         x.emit(ADDI, 1, 1, 1000);
         x.emit(MUL, 1, 1, 1);
-        sameState("13: after FULL", x, filled());
+        Machines.sameState("13: after FULL", x, Machines.filled());
     }
 
     private static void promise13RefusedWhenEmpty() {
@@ -512,29 +512,7 @@ public final class PromiseTest {
         x.retract();
         x.retract();
         x.emit(ADD, 0, 0, 8);
-        sameState("13: after BAD on an empty program", x, new BundleMachine());
-    }
-
-    private static BundleMachine sample() {
-        BundleMachine x = new BundleMachine();
-        for (int r = 0; r < 8; r++) {
-            x.setRegister(r, r + 1);
-        }
-        for (int cell = 0; cell < 16; cell++) {
-            x.setMemory(cell, 100 + cell);
-        }
-        x.emit(MUL, 1, 2, 3);
-        x.emit(LOAD, 4, 1, 0);
-        x.emit(STORE, 4, 2, 0);
-        return x;
-    }
-
-    private static BundleMachine filled() {
-        BundleMachine x = new BundleMachine();
-        for (int k = 0; k < MOST; k++) {
-            x.emit(ADDI, 1, 1, 1);
-        }
-        return x;
+        Machines.sameState("13: after BAD on an empty program", x, new BundleMachine());
     }
 
     private static int after(int op, int old, int left, int right) {
@@ -547,26 +525,5 @@ public final class PromiseTest {
         Due.same("5: a is left by op " + op, x.register(2), left);
         Due.same("5: b is left by op " + op, x.register(3), right);
         return x.register(1);
-    }
-
-    private static void sameState(String when, BundleMachine x, BundleMachine want) {
-        sameValues(when, x, want);
-        Due.same(when + ", links", x.links(), want.links());
-        Due.same(when + ", heaviest", x.heaviest(), want.heaviest());
-        for (int i = 0; i < MOST; i++) {
-            Due.same(when + ", weight " + i, x.weight(i), want.weight(i));
-        }
-        Due.same(when + ", run", x.run(), want.run());
-        sameValues(when + " and a run", x, want);
-        Due.same(when + ", drop", x.drop(), want.drop());
-    }
-
-    private static void sameValues(String when, BundleMachine x, BundleMachine want) {
-        for (int r = 0; r < 8; r++) {
-            Due.same(when + ", register " + r, x.register(r), want.register(r));
-        }
-        for (int cell = 0; cell < 16; cell++) {
-            Due.same(when + ", cell " + cell, x.memory(cell), want.memory(cell));
-        }
     }
 }
